@@ -257,7 +257,7 @@ public final class PinchedBill {
     }
 
     public int law(int k) throws IllegalArgumentException {
-        mustBeWithin(k, 0, Integer.MAX_VALUE);
+        mustNotBeBelow0(k);
         Reckoner r = reckoned();
         r.findLaws(now.sitting);
         return r.foundAt(k);
@@ -281,7 +281,7 @@ public final class PinchedBill {
         Reckoner r = reckoned();
         int many = r.findLaws(now.sitting);
         int best = NONE;
-        int least = Integer.MAX_VALUE;
+        int least = BILLS;
         for (int k = 0; k < many; k++) {
             int far = farApart(r.foundAt(k), bill);
             if (far < least) {
@@ -368,7 +368,7 @@ public final class PinchedBill {
     public int beforeAt(int bill, int n, int k) throws IllegalArgumentException {
         mustBeBill(bill);
         mustBeWithin(n, 0, MOST_BEFORE);
-        mustBeWithin(k, 0, Integer.MAX_VALUE);
+        mustNotBeBelow0(k);
         Reckoner r = reckoned();
         r.findBefore(bill, n, now.sitting);
         return r.foundAt(k);
@@ -380,7 +380,7 @@ public final class PinchedBill {
 
     public int seenAt(int tray, int k) throws NoSuchElementException, IllegalStateException, IllegalArgumentException {
         Tray told = traySeen(tray);
-        mustBeWithin(k, 0, Integer.MAX_VALUE);
+        mustNotBeBelow0(k);
         Reckoner r = reckoned();
         r.findSeen(told, now.sitting);
         return r.foundAt(k);
@@ -393,7 +393,7 @@ public final class PinchedBill {
             return NONE;
         }
         int best = NONE;
-        int least = Integer.MAX_VALUE;
+        int least = BILLS + 1;
         for (int place = 0; place < told.many; place++) {
             if (told.numberAt(place) == NONE) {
                 int alike = r.mostAlikeIn(place, now.sitting);
@@ -524,7 +524,7 @@ public final class PinchedBill {
             case 4:
                 return Integer.bitCount(now.sitting);
             case 5:
-                return BILLS / house.unit();
+                return house.bills();
             case 6:
                 return now.deeds;
             case 7:
@@ -539,6 +539,12 @@ public final class PinchedBill {
     private static void mustBeWithin(int n, int least, int most) {
         if (n < least || n > most) {
             throw new IllegalArgumentException("a number is out of its bounds");
+        }
+    }
+
+    private static void mustNotBeBelow0(int k) {
+        if (k < 0) {
+            throw new IllegalArgumentException("below 0");
         }
     }
 
@@ -774,6 +780,14 @@ public final class PinchedBill {
                 return 100;
             }
             return lines == 2 ? 10 : 1;
+        }
+
+        int bills() {
+            return BILLS / unit();
+        }
+
+        int billAt(int i) {
+            return i * unit();
         }
 
         boolean isBill(int bill) {
@@ -1445,6 +1459,7 @@ public final class PinchedBill {
         private final House house;
         private final int[] marks = new int[STATES];
         private int nextMark = 1;
+        /** Of all bills, in their order, what a trace finds, for one set of people. */
         private final int[] endRow = new int[BILLS];
         private final int[] lengthRow = new int[BILLS];
         private int settledFor = NONE;
@@ -1511,10 +1526,11 @@ public final class PinchedBill {
             if (settledFor == sitting) {
                 return;
             }
-            for (int b = 0; b < BILLS; b += house.unit()) {
+            for (int i = 0; i < house.bills(); i++) {
+                int b = house.billAt(i);
                 trace(b, sitting);
-                endRow[b] = end;
-                lengthRow[b] = length;
+                endRow[i] = end;
+                lengthRow[i] = length;
             }
             settledFor = sitting;
         }
@@ -1522,8 +1538,8 @@ public final class PinchedBill {
         int howManyEndIn(int law, int sitting) {
             settleAll(sitting);
             int many = 0;
-            for (int b = 0; b < BILLS; b += house.unit()) {
-                if (endRow[b] == law) {
+            for (int i = 0; i < house.bills(); i++) {
+                if (endRow[i] == law) {
                     many++;
                 }
             }
@@ -1534,10 +1550,10 @@ public final class PinchedBill {
             settleAll(sitting);
             int best = NONE;
             int most = -1;
-            for (int b = 0; b < BILLS; b += house.unit()) {
-                if (endRow[b] != NONE && lengthRow[b] > most) {
-                    best = b;
-                    most = lengthRow[b];
+            for (int i = 0; i < house.bills(); i++) {
+                if (endRow[i] != NONE && lengthRow[i] > most) {
+                    best = house.billAt(i);
+                    most = lengthRow[i];
                 }
             }
             return best;
@@ -1628,7 +1644,8 @@ public final class PinchedBill {
 
         int findLaws(int sitting) {
             foundMany = 0;
-            for (int b = 0; b < BILLS; b += house.unit()) {
+            for (int i = 0; i < house.bills(); i++) {
+                int b = house.billAt(i);
                 if (laws.isLaw(b, sitting)) {
                     addFound(b);
                 }
@@ -1638,7 +1655,8 @@ public final class PinchedBill {
 
         int findBefore(int bill, int n, int sitting) {
             foundMany = 0;
-            for (int b = 0; b < BILLS; b += house.unit()) {
+            for (int i = 0; i < house.bills(); i++) {
+                int b = house.billAt(i);
                 if (billIn(b, n, sitting) == bill) {
                     addFound(b);
                 }
@@ -1648,7 +1666,8 @@ public final class PinchedBill {
 
         int findSeen(Tray seen, int sitting) {
             foundMany = 0;
-            for (int b = 0; b < BILLS; b += house.unit()) {
+            for (int i = 0; i < house.bills(); i++) {
+                int b = house.billAt(i);
                 if (looksSo(b, seen, sitting)) {
                     addFound(b);
                 }
