@@ -21,6 +21,8 @@ public final class EndsTest {
         longest();
         nearest();
         wrongBills();
+        manySpeakers();
+        manyTraces();
         Check.end();
     }
 
@@ -159,6 +161,32 @@ public final class EndsTest {
         PinchedBill z = Check.housed("house lines 2;person 0 0;pinches:not [one=0 and two=9 or one=1 and two=0];");
         Check.due("28: by figures, not by numbers", z.nearest(0), 100);
         Check.due("28: by figures, not by numbers", z.nearest(80), 90);
+    }
+
+    /** Other bills with other speakers are no ring. */
+    private static void manySpeakers() {
+        String up = "person 0 0 9;";
+        for (int people = 1; people <= 8; people++) {
+            PinchedBill x = Check.housed("house lines 3;" + up.repeat(people) + "pinches:three<9;");
+            Check.due("19: by " + people, x.ends(0), 9);
+            Check.due("20: by " + people, x.takes(0), 9);
+        }
+        PinchedBill y = Check.housed("house lines 3;person 9 9 9;person 9 9 9;person 0 0 0;pinches:one<9 or two<9 or three<9;");
+        Check.due("19: two up, one down", y.ends(0), 999);
+        Check.due("20: two up, one down", y.takes(0), 7 * 3 + 2);
+    }
+
+    /** So many as no row of marks has room for without being cleared. */
+    private static void manyTraces() {
+        PinchedBill x = Check.housed("house lines 3;person 9 0 0;person 0 0 0;pinches:one<5 or one<9 and who=0;");
+        int wrong = 0;
+        for (int i = 0; i < 240; i++) {
+            int many = i % 2 == 0 ? x.send(1) : x.call(1);
+            wrong += x.endless() == (many == 1 ? 0 : 400) ? 0 : 1;
+        }
+        Check.due("26: 240 times all bills", wrong, 0);
+        Check.due("22: then", x.ring(0, 0), 2);
+        Check.due("22: then", x.ring(0, 1), 1);
     }
 
     private static void wrongBills() {

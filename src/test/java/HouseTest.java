@@ -84,6 +84,7 @@ public final class HouseTest {
         x.feed(0x686F7573, 0x65206C69, 0x6E657320, 0x323B5A5A, 0);
         Check.due("3: only the first n bytes", x.house(14), 1);
         Check.due("3: people are gone", x.count(2), 0);
+        Check.due("3: nobody sits", x.count(3), 0);
         Check.due("3: lines of a bill", x.count(1), 2);
         x.feed(0, 0, 0, 0, 0);
         Check.due("3: no byte at all", x.house(0), -12);

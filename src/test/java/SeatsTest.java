@@ -58,6 +58,8 @@ public final class SeatsTest {
                 "house lines 1;person 0;person 0 out;person 0 out;pinches:who=0 or one=0;changes:0;").hire(0), -1);
         Check.due("30: the first of two who help", Check.housed("house lines 1;person 0;person 0 out;person 0 out;person 0;"
                 + "pinches:who=0 and one=0 or who>0 and one=1;changes:5-who*2;").hire(0), 1);
+        Check.due("30: number 0", Check.housed("house lines 1;person 9 out;person 0;person 9;"
+                + "pinches:one=0 and who=2 or one=1 and who<2;changes:hat-5;").hire(0), 0);
         Check.due("30: the first who helps, not the first", Check.housed("house lines 1;person 9;person 0 out;person 9 out;"
                 + "person 0;pinches:who=0 and one=0 or who>0 and one=1;changes:hat-5;").hire(0), 2);
         Check.dueThrow("30: bill", IllegalArgumentException.class, () -> x.hire(-1));

@@ -45,6 +45,18 @@ public final class TextTest {
         faulty("house lines 0001;", 1, 12);
         faulty("house lines 1;changes:12345;", 1, 22);
         faulty("house lines 1;changes:1+0000;", 1, 24);
+        faulty("house lines 1;zoo 1;", 2, 14);
+        faulty("house lines 1;zz", 2, 14);
+        faulty("house lines 1;rill 1;", 2, 14);
+        faulty("house lines 1;billy 1;", 2, 14);
+        faulty("house lines 1;bil 1;", 2, 14);
+        faulty("mouse lines 1;", 2, 0);
+        faulty("house lines 1;changes:bead;", 2, 22);
+        faulty("house lines 1;changes:gat;", 2, 22);
+        faulty("house lines 1;changes:1/1;", 1, 23);
+        faulty("house lines 1;changes:`;", 1, 22);
+        faulty("house lines 1;changes:@;", 1, 22);
+        faulty("house lines 1;changes:1,1;", 1, 23);
         faulty("house lines 1;{", 1, 14);
         faulty("house lines 1;" + (char) 233, 1, 14);
         faulty("house lines 1;" + (char) 0, 1, 14);

@@ -76,6 +76,11 @@ public final class TwoTest {
         chanceIs("house lines 1;" + eight + "pinches:1=1;", 0, 43046721, 100000000);
         // Only 0 is pinched for ever.
         chanceIs("house lines 1;" + eight + "pinches:who=0;", 0, 9, 10);
+        PinchedBill z = Check.housed(RING);
+        Check.due("41: one house", z.chance(0, 1), 5);
+        Check.tell(z, THREE);
+        Check.due("41: then another house", z.chance(0, 1), 1);
+        Check.due("29: then another house", z.seats(0, 500, 1), 2);
         PinchedBill x = Check.housed(RING);
         x.send(0);
         Check.due("41: whether it sits now or not", x.chance(0, 0), 2);
