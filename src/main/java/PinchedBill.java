@@ -165,7 +165,6 @@ public final class PinchedBill {
     }
 
     public int undo(int n) throws IllegalArgumentException {
-        mustBeWithin(n, 1, MOST_DEEDS);
         mustBeWithin(n, 1, now.deeds);
         for (int i = 0; i < n; i++) {
             now.takeBack();
@@ -783,7 +782,10 @@ public final class PinchedBill {
         }
 
         int bills() {
-            return BILLS / unit();
+            if (lines == 1) {
+                return 10;
+            }
+            return lines == 2 ? 100 : BILLS;
         }
 
         int billAt(int i) {
@@ -791,7 +793,13 @@ public final class PinchedBill {
         }
 
         boolean isBill(int bill) {
-            return bill >= 0 && bill < BILLS && bill % unit() == 0;
+            if (bill < 0 || bill >= BILLS) {
+                return false;
+            }
+            if (lines == 1) {
+                return bill % 100 == 0;
+            }
+            return lines != 2 || bill % 10 == 0;
         }
 
         int markOf(int p, int line) {
@@ -1312,10 +1320,11 @@ public final class PinchedBill {
                 return pinchedRow[bill] - KNOWN;
             }
             int people = 0;
+            setFigures(bill);
             for (int p = 0; p < house.people; p++) {
-                boolean pinches = house.markOf(p, 0) > figureOf(bill, 0);
+                setMarks(p);
+                boolean pinches = values[WORD_HAT - WORD_ONE] > values[0];
                 if (house.hasPinches()) {
-                    setValues(bill, p);
                     pinches = valueOf(house.pinchesFrom, house.pinchesTo) != 0;
                 }
                 if (pinches) {
@@ -1336,7 +1345,8 @@ public final class PinchedBill {
                 return changedRow[i] - KNOWN;
             }
             int changed = 0;
-            setValues(bill, p);
+            setFigures(bill);
+            setMarks(p);
             for (int line = 0; line < house.lines; line++) {
                 int figure = figureOf(bill, line);
                 int way = house.markOf(p, line) - figure;
@@ -1358,9 +1368,14 @@ public final class PinchedBill {
             return way > 0 ? Math.min(9, figure + 1) : figure;
         }
 
-        private void setValues(int bill, int p) {
+        private void setFigures(int bill) {
             for (int line = 0; line < MOST_LINES; line++) {
                 values[line] = figureOf(bill, line);
+            }
+        }
+
+        private void setMarks(int p) {
+            for (int line = 0; line < MOST_LINES; line++) {
                 values[WORD_HAT - WORD_ONE + line] = house.markOf(p, line);
             }
             values[WORD_WHO - WORD_ONE] = p;

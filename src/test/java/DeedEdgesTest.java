@@ -169,6 +169,22 @@ public final class DeedEdgesTest {
         Edge.due("bill", x.bill(), 400);
         Edge.due("a deed then", x.draft(900), 400);
         Edge.due("deeds", x.count(6), 1);
+        PinchedBill seats = Check.housed("house lines 1;" + "person 0;".repeat(8));
+        for (int i = 0; i < 14; i++) {
+            Edge.due("one goes, one comes", i < 8 ? seats.send(i) : seats.call(i - 8), i < 8 ? 7 - i : i - 7);
+        }
+        for (int i = 13; i >= 4; i--) {
+            Edge.due("undo(1)", seats.undo(1), i - 4);
+            Edge.due("who sat then", seats.count(3), i < 8 ? 255 & -1 << i : (1 << i - 8) - 1);
+        }
+        PinchedBill spoken = Check.housed("house lines 1;" + "person 0;".repeat(8) + "pinches:1=1;");
+        for (int i = 0; i < 14; i++) {
+            spoken.steps(1);
+        }
+        for (int i = 13; i >= 4; i--) {
+            Edge.due("undo(1)", spoken.undo(1), i - 4);
+            Edge.due("who spoke then", spoken.spoke(), (i - 1) % 8);
+        }
         for (int times : new int[] {10, 11, 30}) {
             PinchedBill y = new PinchedBill();
             y.tray(0, 2, times);

@@ -127,6 +127,7 @@ public final class EndEdgesTest {
         ring("house lines 1;person 5;person 5;pinches:1=1;", 500, 2, 1, 500, 500);
         ring("house lines 1;person 5;person 5;pinches:1=1;", 400, 2, 1, 500, 500);
         ring("house lines 1;person 5;person 5;pinches:1=1;", 300, 2, 2, 500, 500);
+        ring("house lines 3;" + "person 9 9 9;".repeat(8) + "pinches:1=1;", 999, 8, 1, 999, 999, 999, 999, 999, 999, 999, 999);
         ring("house lines 1;person 9;person 9;person 0;pinches:1=1;", 0, 3, 23, 900, 800, 900);
         Edge.of(22, "10 + k: its k-th BILL (k 0 to 9; NONE: it isn't so long)");
         String up = "house lines 1;person 9;person 9;person 9;person 9;";
@@ -259,6 +260,18 @@ public final class EndEdgesTest {
         Edge.due("five apart, five apart: the first", two.nearest(750), 250);
         Edge.due("four apart, six apart", two.nearest(210), 250);
         Edge.due("nine apart, one apart", two.nearest(600), 700);
+        PinchedBill each = Check.housed("house lines 3;person 0 0 0;pinches:not[one=2 and two+three=0 or two=2 and one+three=0 or three=2 and one+two=0];");
+        Edge.due("two apart by each figure, the first", each.nearest(0), 2);
+        Edge.due("one apart by the first figure", each.nearest(100), 200);
+        Edge.due("one apart by the second", each.nearest(10), 20);
+        Edge.due("one apart by the third", each.nearest(1), 2);
+        Edge.due("three apart by the third, four else", each.nearest(5), 2);
+        PinchedBill third = Check.housed("house lines 3;person 0 0 0;pinches:not[three=2 and one+two=0 or one=3 and two+three=0];");
+        Edge.due("two by the third, three by the first", third.nearest(0), 2);
+        PinchedBill second = Check.housed("house lines 3;person 0 0 0;pinches:not[two=2 and one+three=0 or three=3 and one+two=0];");
+        Edge.due("two by the second, three by the third", second.nearest(0), 20);
+        PinchedBill first = Check.housed("house lines 3;person 0 0 0;pinches:not[one=2 and two+three=0 or three=3 and one+two=0];");
+        Edge.due("two by the first, three by the third", first.nearest(0), 200);
         PinchedBill y = Check.housed("house lines 2;person 0 0;pinches:not [one=3 and two=5 or one=5 and two=3];");
         Edge.due("alike, the first", y.nearest(440), 350);
         Edge.due("nearer to the second", y.nearest(530), 530);

@@ -15,6 +15,7 @@ public final class HouseEdgesTest {
         highestFirst();
         fullTape();
         firstBytes();
+        oneHouseAfterAnother();
         faultsAnswered();
         allStays();
         wrongLengths();
@@ -123,6 +124,66 @@ public final class HouseEdgesTest {
         Edge.due("all sit", y.count(3), 255);
         Edge.dueThrow("undo(1)", IllegalArgumentException.class, () -> y.undo(1));
         Edge.due("house alone", Check.tell(y, "house lines 1;"), 1);
+    }
+
+    /** All that a house and its laws tell, in one number. */
+    private static long told(PinchedBill x) {
+        long all = x.bill();
+        for (int what = 0; what < 6; what++) {
+            all = all * 31 + x.count(what);
+        }
+        for (int p = 0; p < x.count(2); p++) {
+            for (int what = 0; what < 6; what++) {
+                all = all * 31 + x.person(p, what);
+            }
+            all = all * 31 + x.spoken(0, p);
+            all = all * 31 + x.spoken(900, p);
+        }
+        for (int b = 0; b < 1000; b += 300) {
+            all = all * 31 + x.pinched(b);
+            all = all * 31 + x.ends(b);
+            all = all * 31 + x.weighty(b);
+            all = all * 31 + x.chance(b, 0);
+            all = all * 31 + x.seats(b, 900, 1);
+            all = all * 31 + x.into(b);
+        }
+        return all * 31 + x.longest();
+    }
+
+    private static void oneHouseAfterAnother() {
+        Edge.of(3, "are THE HOUSE");
+        String longLaw = "0-1" + "+1-1".repeat(100);
+        String[] texts = {"house lines 3;" + "person 9 8 7 temper 3;".repeat(8) + "pinches:one<9;changes:1;bill 1 2 3;", "house lines 1;",
+            "house lines 1;person 4;", "house lines 2;person 4 5 out;person 3 3;pinches:" + longLaw + "<0;", "house lines 2;person 6 6;changes:"
+            + longLaw + ";", "house lines 1;person 9;pinches:one<who+" + longLaw + "+7;", "house lines 3;person 2 2 2 out;bill 9 9 9;", THREE};
+        PinchedBill[] fresh = new PinchedBill[texts.length];
+        long[] due = new long[texts.length];
+        for (int i = 0; i < texts.length; i++) {
+            fresh[i] = Check.housed(texts[i]);
+            due[i] = told(fresh[i]);
+        }
+        for (int i = 0; i < texts.length; i++) {
+            for (int k = 0; k < texts.length; k++) {
+                PinchedBill x = Check.housed(texts[i]);
+                told(x);
+                Check.tell(x, texts[k]);
+                Edge.due("the house " + texts[k] + " behind " + texts[i], told(x), due[k]);
+                Check.tell(x, texts[i] + "#");
+                Edge.due("the house " + texts[k] + " with a fault behind it", told(x), due[k]);
+            }
+        }
+        for (int i = 0; i < texts.length; i++) {
+            fresh[i].image(0);
+            Check.tell(fresh[i], texts[(i + 1) % texts.length]);
+            told(fresh[i]);
+            fresh[i].restore(0);
+            Edge.due("the house " + texts[i] + " restored", told(fresh[i]), due[i]);
+        }
+        PinchedBill x = new PinchedBill();
+        for (int i = 0; i < 5; i++) {
+            Edge.due("long laws, one behind another", Check.tell(x, "house lines 1;person 0;changes:0-1" + "+1-1".repeat(150) + ";"), 3);
+            Edge.due("they still count", x.spoken(500, 0), 400);
+        }
     }
 
     private static void faultsAnswered() {

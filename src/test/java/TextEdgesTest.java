@@ -288,6 +288,15 @@ public final class TextEdgesTest {
             faulty(1, ahead + "|1234" + behind);
             faulty(2, ahead + (i == 0 ? "house |house" : "|house") + behind);
         }
+        for (String law : new String[] {"|*1", "|+1", "|-1", "|)", "|]", "|=", "|:1", "1+|*1", "1*|+1", "1-|-1", "1+|;", "1*|;", "(|;", "(|)",
+            "(1+|)", "(1|;", "1|)", "1|(2)", "1|one", "one|1", "1|:", "1|=1", "1|and 1", "1|not", "|[1]", "|out", "|temper", "|lines"}) {
+            faulty(2, ONE + "changes:" + law + ";");
+        }
+        for (String law : new String[] {"|=1", "|<1", "|>1", "|and 1=1", "|or 1=1", "|]", "[|]", "[|and", "not |and", "not |]", "1|]", "1|and",
+            "1|[", "1=|=", "1=|<1", "1=|>", "1=|[1]", "1=|not 1", "1=1|=1", "1=1 |1", "1=1|]", "1=1|)", "1=1|(", "1=1|[", "1=1 |not", "1=1 and|;",
+            "1=1 or|;", "1=1 and |or", "1=1 or |and", "[1=1|)", "[1=1|;", "(1|=1)", "(1|]", "(|[", "1=1|:", "|person"}) {
+            faulty(2, ONE + "pinches:" + law.replace("(|[", "(|[") + ";");
+        }
         Edge.of(Edge.TERMS, "line in pinches;");
         faulty(2, ONE + "pinches:|line=1;");
         faulty(2, ONE + "pinches:1=|line;");

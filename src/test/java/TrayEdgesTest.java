@@ -212,6 +212,26 @@ public final class TrayEdgesTest {
             x.restore(i);
             Edge.due("restored once more", x.count(6) * 100 + x.count(3), 203);
         }
+        PinchedBill many = Check.housed(THREE);
+        for (int i = 1; i <= 9; i++) {
+            many.draft(100 * i);
+        }
+        many.send(0);
+        many.draft(0);
+        many.steps(1);
+        many.image(2);
+        Check.tell(many, "house lines 1;person 9;person 9;");
+        for (int i = 0; i < 12; i++) {
+            many.steps(1);
+        }
+        many.restore(2);
+        int[] bills = {0, 900, 900, 800, 700, 600, 500, 400, 300, 200};
+        for (int i = 0; i < 10; i++) {
+            Edge.due("undone", many.undo(1), 9 - i);
+            Edge.due("bill then", many.bill(), bills[i]);
+            Edge.due("who sits then", many.count(3), i < 2 ? 2 : 3);
+            Edge.due("spoke then", many.spoke(), -1);
+        }
         PinchedBill y = new PinchedBill();
         y.image(0);
         Check.tell(y, THREE);
