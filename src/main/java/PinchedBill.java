@@ -1590,21 +1590,18 @@ public final class PinchedBill {
             return endOfSet[set];
         }
 
+        /** A goal of NONE: in whatever law. */
         int fewestSeats(int bill, int goal) {
             int sets = 1 << house.people;
             for (int many = 0; many <= house.people; many++) {
                 for (int set = 0; set < sets; set++) {
-                    if (Integer.bitCount(set) == many && endsAsTold(bill, set, goal)) {
+                    int law = Integer.bitCount(set) == many ? endWith(bill, set) : NONE;
+                    if (law != NONE && (goal == NONE || goal == law)) {
                         return set;
                     }
                 }
             }
             return NONE;
-        }
-
-        private boolean endsAsTold(int bill, int set, int goal) {
-            int law = endWith(bill, set);
-            return law != NONE && (goal == NONE || goal == law);
         }
 
         /** How likely a bill ends, of house.wholeChance(), when one stays away (NONE: nobody). */
