@@ -283,6 +283,9 @@ public final class TextEdgesTest {
             for (int k = i + 1; k < TOKENS.length; k++) {
                 behind.append(' ').append(TOKENS[k]);
             }
+            if (TOKENS[i].length() > 1) {
+                misspelt(ahead, TOKENS[i], behind.toString());
+            }
             faulty(2, ahead + "|zzz" + behind);
             faulty(1, ahead + "|#" + behind);
             faulty(1, ahead + "|1234" + behind);
@@ -303,6 +306,18 @@ public final class TextEdgesTest {
         faulty(2, ONE + "changes:line;pinches:[not 1+(2*|line)=1];");
         fine(ONE + "changes:line;", 2);
         faulty(2, ONE + "changes:|lines;");
+    }
+
+    /** Each letter of a word counts, and no other word does. */
+    private static void misspelt(String ahead, String word, String behind) {
+        for (int i = 0; i < word.length(); i++) {
+            faulty(2, ahead + "|" + word.substring(0, i) + "z" + word.substring(i + 1) + behind);
+        }
+        faulty(2, ahead + "|" + word.substring(1) + behind);
+        faulty(2, ahead + "|" + word.substring(0, word.length() - 1) + behind);
+        faulty(2, ahead + "|" + word + "s" + behind);
+        faulty(2, ahead + "|" + word + word + behind);
+        faulty(1, ahead + "|" + word.toUpperCase() + behind);
     }
 
     private static void firstAndOnce() {
