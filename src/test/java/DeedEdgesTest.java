@@ -15,6 +15,7 @@ public final class DeedEdgesTest {
         drafts();
         sending();
         calling();
+        sitsOrNot();
         undoing();
         tenAtMost();
         eachKindIsUndone();
@@ -117,6 +118,27 @@ public final class DeedEdgesTest {
         Edge.due("of three: call(3)", Check.housed(THREE).call(3), -1);
         Edge.due("of none: call(0)", new PinchedBill().call(0), -1);
         Edge.due("eight deeds", x.count(6), 8);
+    }
+
+    private static void sitsOrNot() {
+        Edge.of(Edge.TERMS, "To SEND one out: it doesn't sit. To CALL one in: it sits.");
+        PinchedBill x = Check.housed(THREE);
+        x.steps(1);
+        x.send(0);
+        Edge.due("sent", x.person(0, 4), 0);
+        Edge.due("bill stays", x.bill(), 100);
+        Edge.due("who spoke stays, though it doesn't sit", x.spoke(), 0);
+        x.call(2);
+        Edge.due("called", x.person(2, 4), 1);
+        Edge.due("bill stays", x.bill(), 100);
+        Edge.due("who spoke stays", x.spoke(), 0);
+        x.send(1);
+        Edge.due("next", x.next(), 2);
+        x.send(2);
+        Edge.due("nobody sits: a law", x.next(), -1);
+        x.call(0);
+        Edge.due("who spoke last, called in again", x.next(), 0);
+        Edge.due("six deeds", x.count(6), 6);
     }
 
     private static void undoing() {

@@ -26,6 +26,9 @@ public final class HouseEdgesTest {
         toldBills();
         spokenTo();
         sumsKept();
+        truths();
+        sums();
+        none();
         Edge.end(1, 10);
     }
 
@@ -404,6 +407,11 @@ public final class HouseEdgesTest {
         }
         Edge.due("the bill stays", x.bill(), 0);
         Edge.due("nobody spoke", x.spoke(), -1);
+        Edge.of(10, "NoSuchElementException; IllegalArgumentException.");
+        for (int no : new int[] {-1, 1, 10, 1000, FAR[0], FAR[3]}) {
+            Edge.dueThrow("spoken(" + no + ", 0)", IllegalArgumentException.class, () -> x.spoken(no, 0));
+            Edge.dueThrow("spoken(" + no + ", 2)", NoSuchElementException.class, () -> x.spoken(no, 2));
+        }
         Edge.of(Edge.TERMS, "is 1 less, if the law changes is below 0, 1 more, if above, else the same, 0 to 9 always");
         int[] ways = {-1, 0, 1};
         for (int way : ways) {
@@ -480,5 +488,61 @@ public final class HouseEdgesTest {
         PinchedBill y = Check.housed("house lines 3;person 1 2 3;pinches:one*100+two*10+three=456 and hat*100+head*10+height=123;");
         Edge.due("each by itself", y.pinched(456), 1);
         Edge.due("each by itself", y.pinched(465) + y.pinched(546), 0);
+    }
+
+    private static String unit(boolean holds) {
+        return holds ? "1=1" : "1=0";
+    }
+
+    private static void truths() {
+        Edge.of(Edge.TERMS, "TRUTH: BOTH { or BOTH }; BOTH: UNIT { and UNIT }");
+        for (int bits = 0; bits < 8; bits++) {
+            boolean a = (bits & 1) != 0;
+            boolean b = (bits & 2) != 0;
+            boolean c = (bits & 4) != 0;
+            String first = unit(a);
+            String second = unit(b);
+            String third = unit(c);
+            holds(first + " and " + second + " or " + third, a && b || c);
+            holds(first + " or " + second + " and " + third, a || b && c);
+            holds(first + " or " + second + " or " + third, a || b || c);
+            holds(first + " and " + second + " and " + third, a && b && c);
+            holds("[" + first + " or " + second + "]and " + third, (a || b) && c);
+            holds(first + " and[" + second + " or " + third + "]", a && (b || c));
+            holds("not " + first + " and not " + second + " or not " + third, !a && !b || !c);
+            holds("not not " + first + " and not[" + second + " or not " + third + "]", a && !(b || !c));
+        }
+        holds("1=0" + " or 1=0".repeat(80) + " or 1=1", true);
+        holds("1=0" + " or 1=0".repeat(81), false);
+        holds("1=1" + " and 1=1".repeat(70) + " and 1=0", false);
+        holds("1=1" + " and 1=1".repeat(71), true);
+        holds("not not not not not not 1=1", true);
+        holds("not not not not not 1=1", false);
+    }
+
+    private static void sums() {
+        Edge.of(Edge.TERMS, "SUM: TERM { + TERM | - TERM }; TERM: ATOM { * ATOM }; ATOM: N, ( SUM )");
+        holds("10-3-2=5", true);
+        holds("10-3+2=9", true);
+        holds("10+3-2=11", true);
+        holds("10-(3-2)=9", true);
+        holds("10-(3+2)=5", true);
+        holds("2+3*4=14", true);
+        holds("2*3+4=10", true);
+        holds("20-2*3*2=8", true);
+        holds("(20-2)*3=54", true);
+        holds("2*(3+4)*5=70", true);
+        holds("((((((7))))))=7", true);
+        holds("0-1-1*2+(3-(4-5))=1", true);
+        holds("1" + "-1".repeat(300) + "=0-299", true);
+        Edge.of(Edge.TERMS, "who, in changes line too");
+        PinchedBill x = Check.housed("house lines 2;person 0 0;person 0 0;changes:line*2-who;");
+        Edge.due("who 0", x.spoken(550, 0), 560);
+        Edge.due("who 1", x.spoken(550, 1), 460);
+    }
+
+    private static void none() {
+        Edge.of(Edge.TERMS, "The constants: `NONE = -1`: There is none.");
+        Edge.due("NONE", PinchedBill.NONE, -1);
     }
 }

@@ -1,3 +1,5 @@
+import java.io.PrintWriter;
+import java.io.StringWriter;
 import java.lang.reflect.Field;
 import java.lang.reflect.Method;
 import java.lang.reflect.Modifier;
@@ -6,10 +8,14 @@ import java.nio.file.Path;
 import java.util.ArrayList;
 import java.util.Collections;
 import java.util.List;
+import java.util.Map;
+import java.util.Optional;
 import java.util.Set;
+import java.util.TreeMap;
 import java.util.TreeSet;
 import java.util.regex.Matcher;
 import java.util.regex.Pattern;
+import java.util.spi.ToolProvider;
 
 /** The face as the document prints it, and such rules of LANGUAGE.md as can be seen from outside. */
 public final class RulesTest {
@@ -25,6 +31,7 @@ public final class RulesTest {
         fields();
         words();
         lengths();
+        depth();
         Check.end();
     }
 
@@ -135,5 +142,59 @@ public final class RulesTest {
                 from = -1;
             }
         }
+    }
+
+    /** Calls that are no recursion, from the face down, by what the compiled classes call. */
+    private static void depth() throws Exception {
+        Optional<ToolProvider> javap = ToolProvider.findFirst("javap");
+        if (javap.isEmpty()) {
+            System.out.println("no javap here: the calls' depth is not looked at");
+            return;
+        }
+        List<String> names = new ArrayList<>(List.of("PinchedBill"));
+        for (Class<?> k : PinchedBill.class.getDeclaredClasses()) {
+            names.add(k.getName());
+        }
+        String place = Path.of(PinchedBill.class.getProtectionDomain().getCodeSource().getLocation().toURI()).toString();
+        Map<String, Set<String>> calls = new TreeMap<>();
+        for (String name : names) {
+            StringWriter out = new StringWriter();
+            javap.get().run(new PrintWriter(out), new PrintWriter(System.err), "-c", "-p", "-cp", place, name);
+            addCalls(name, out.toString(), calls);
+        }
+        Check.due("methods are found", calls.size() > 100 ? 1 : 0, 1);
+        for (String from : calls.keySet()) {
+            int deep = deepest(from, calls, new TreeSet<>());
+            Check.due("rule 11, calls below " + from + ": " + deep, deep <= 8 ? 1 : 0, 1);
+        }
+    }
+
+    private static void addCalls(String name, String listing, Map<String, Set<String>> calls) {
+        String method = "";
+        for (String line : listing.split("\n")) {
+            Matcher head = Pattern.compile("^  \\S.*?([\\w$]+)\\(.*\\).*;$").matcher(line);
+            if (head.find()) {
+                method = name + "." + head.group(1);
+                calls.computeIfAbsent(method, k -> new TreeSet<>());
+            }
+            Matcher call = Pattern.compile("invoke\\w+ .*// (?:Interface)?Method ([^:]+):").matcher(line);
+            if (call.find()) {
+                String to = call.group(1);
+                calls.get(method).add(to.contains(".") ? to : name + "." + to);
+            }
+        }
+    }
+
+    /** A method that is called again on the way down is recursion, which rule 8 bounds. */
+    private static int deepest(String from, Map<String, Set<String>> calls, Set<String> open) {
+        if (!calls.containsKey(from) || from.contains("Reader.read") || !open.add(from)) {
+            return 0;
+        }
+        int most = 0;
+        for (String to : calls.get(from)) {
+            most = Math.max(most, 1 + deepest(to, calls, open));
+        }
+        open.remove(from);
+        return most;
     }
 }

@@ -17,6 +17,7 @@ public final class TextEdgesTest {
         blanksAndSigns();
         asLongAsTheyGo();
         numbers();
+        bounds();
         firstAlongTheText();
         leastKind();
         theEnd();
@@ -222,6 +223,19 @@ public final class TextEdgesTest {
         faulty(1, "house lines 1;bill 1|.;");
         faulty(1, "house lines 1;bill 1|_;");
         faulty(2, "house lines 1;bill |-1;");
+    }
+
+    private static void bounds() {
+        Edge.of(Edge.TERMS, "3 N is out of its bounds.");
+        faulty(3, "house lines |0;");
+        faulty(3, "house lines |4;");
+        faulty(3, "house lines 1;person |10;");
+        faulty(3, "house lines 3;person 9 9 |10;");
+        faulty(3, "house lines 1;person 9 temper |11;");
+        faulty(3, "house lines 1;bill |10;");
+        faulty(3, "house lines 3;bill 9 9 |010;");
+        fine("house lines 1;changes:0+999;pinches:0<999;", 3);
+        fine("house lines 3;person 000 009 9 temper 010 temper 000;bill 9 09 009;", 3);
     }
 
     private static void firstAlongTheText() {
