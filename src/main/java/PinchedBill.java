@@ -53,44 +53,38 @@ public final class PinchedBill {
     private static final int MINUS = 1015;
     private static final int TIMES = 1016;
 
-    private final byte[] tape = new byte[TAPE_LENGTH];
-    private int fed;
+    private final Reader reader = new Reader();
     private final House house = new House();
-    private final House newHouse = new House();
-    private final Reader reader = new Reader(tape, newHouse);
     private final Standing now = new Standing();
     private final Standing trial = new Standing();
+    /** What is null is missing: a tray not laid out, an image not made. */
     private final Tray[] trays = new Tray[TRAYS];
     private final Image[] images = new Image[IMAGES];
     private Reckoner reckoner;
 
     public PinchedBill() {
-        for (int i = 0; i < TRAYS; i++) {
-            trays[i] = new Tray();
-        }
     }
 
     // ---- the house
 
     public int feed(int a, int b, int c, int d, int e) {
-        if (fed + FEED_LENGTH > TAPE_LENGTH) {
+        if (reader.fed + FEED_LENGTH > TAPE_LENGTH) {
             return NONE;
         }
-        putOnTape(a);
-        putOnTape(b);
-        putOnTape(c);
-        putOnTape(d);
-        putOnTape(e);
-        return fed;
+        reader.putOnTape(a);
+        reader.putOnTape(b);
+        reader.putOnTape(c);
+        reader.putOnTape(d);
+        reader.putOnTape(e);
+        return reader.fed;
     }
 
     public int house(int n) throws IllegalArgumentException {
-        mustBeWithin(n, 0, fed);
-        fed = 0;
+        mustBeWithin(n, 0, reader.fed);
         if (!reader.readsHouse(n)) {
             return -10 - reader.fault;
         }
-        house.copyFrom(newHouse);
+        house.copyFrom(reader.house);
         now.open(house);
         forgetReckoned();
         return house.textLines;
@@ -464,9 +458,14 @@ public final class PinchedBill {
     // ---- trays, images
 
     public void tray(int tray, int sort, int many) throws NoSuchElementException, IllegalArgumentException {
-        Tray t = trayNumbered(tray);
+        mustBeTray(tray);
         mustBeWithin(sort, 0, SORTS - 1);
         mustBeWithin(many, 0, TRAY_LENGTH);
+        Tray t = trays[tray];
+        if (t == null) {
+            t = new Tray();
+            trays[tray] = t;
+        }
         t.layOut(sort, many);
     }
 
@@ -527,7 +526,7 @@ public final class PinchedBill {
             case 6:
                 return now.deeds;
             case 7:
-                return fed;
+                return reader.fed;
             default:
                 return NONE;
         }
@@ -565,16 +564,16 @@ public final class PinchedBill {
         }
     }
 
-    private Tray trayNumbered(int tray) {
+    private static void mustBeTray(int tray) {
         if (tray < 0 || tray >= TRAYS) {
             throw new NoSuchElementException("no such tray");
         }
-        return trays[tray];
     }
 
     private Tray trayThere(int tray) {
-        Tray t = trayNumbered(tray);
-        if (t.many == NONE) {
+        mustBeTray(tray);
+        Tray t = trays[tray];
+        if (t == null) {
             throw new IllegalStateException("the tray is missing");
         }
         return t;
@@ -593,15 +592,6 @@ public final class PinchedBill {
     }
 
     // ---- helpers of the calls
-
-    private void putOnTape(int four) {
-        for (int shift = 24; shift >= 0; shift -= 8) {
-            if (fed < TAPE_LENGTH) {
-                tape[fed] = (byte) (four >> shift);
-                fed++;
-            }
-        }
-    }
 
     /** The reckoner's rows are large: an object that is never asked makes none. */
     private Reckoner reckoned() {
@@ -853,7 +843,7 @@ public final class PinchedBill {
         }
     }
 
-    /** Reads the text of a house, token by token; it stops at the first fault. */
+    /** Has the tape, and reads a house from it, token by token; it stops at the first fault. */
     private static final class Reader {
         private static final int END = 0;
         private static final int WORD = 1;
@@ -870,10 +860,13 @@ public final class PinchedBill {
         private static final int MOST_WITHIN = 6;
         private static final int MOST_DIGITS = 3;
 
+        /** How many bytes the tape has. */
+        int fed;
         int fault;
         int place = NONE;
-        private final byte[] text;
-        private final House house;
+        /** What the latest text tells; it counts only if that has no fault. */
+        final House house = new House();
+        private final byte[] tape = new byte[TAPE_LENGTH];
         private int length;
         private int kind;
         private int start;
@@ -881,15 +874,22 @@ public final class PinchedBill {
         private int number;
         private boolean inChanges;
 
-        Reader(byte[] text, House house) {
-            this.text = text;
-            this.house = house;
+        /** The highest byte comes first. */
+        void putOnTape(int four) {
+            for (int shift = 24; shift >= 0; shift -= 8) {
+                if (fed < TAPE_LENGTH) {
+                    tape[fed] = (byte) (four >> shift);
+                    fed++;
+                }
+            }
         }
 
+        /** Takes the first n bytes as a house; behind it the tape is empty, whether it could be read or not. */
         boolean readsHouse(int n) {
+            fed = 0;
             fault = 0;
             place = NONE;
-            length = Math.min(n, text.length);
+            length = Math.min(n, TAPE_LENGTH);
             end = 0;
             house.clear();
             advance();
@@ -1140,7 +1140,7 @@ public final class PinchedBill {
 
         /** 0 behind the text, which is no token's byte. */
         private int byteAt(int i) {
-            return i >= 0 && i < length && i < text.length ? text[i] & 255 : 0;
+            return i >= 0 && i < length && i < TAPE_LENGTH ? tape[i] & 255 : 0;
         }
 
         private void advance() {
@@ -1252,9 +1252,9 @@ public final class PinchedBill {
         final Standing standing = new Standing();
     }
 
-    /** A row of numbers of one sort; without places (many NONE) it is missing. */
+    /** A row of numbers of one sort. */
     private static final class Tray {
-        int many = NONE;
+        int many;
         private int sort;
         private final long[] row = new long[TRAY_LENGTH];
 
